@@ -1,0 +1,225 @@
+/** Promises 14 and 15: reach, subsumes. */
+public final class CompareTest {
+    public static void main(String[] args) {
+        reachCounts();
+        reachLongestWay();
+        reachCountsClasses();
+        reachBadArguments();
+        subsumesItself();
+        subsumesByType();
+        subsumesByValues();
+        subsumesSharing();
+        subsumesCircles();
+        subsumesTypeFarAway();
+        subsumesOnWaysThatRunBackwards();
+        subsumesBadArguments();
+        questionsChangeNothing();
+        Due.end();
+    }
+
+    private static FeatureUnifier withNodes(int... types) {
+        FeatureUnifier x = new FeatureUnifier();
+        for (int type : types) {
+            x.node(type);
+        }
+        return x;
+    }
+
+    private static void reachCounts() {
+        FeatureUnifier x = withNodes(0, 0, 0, 0, 0, 0);
+        x.arc(0, 0, 1);
+        x.arc(0, 1, 2);
+        x.arc(1, 2, 3);
+        x.arc(2, 2, 3);
+        x.arc(3, 0, 1);
+        x.arc(4, 0, 4);
+        x.arc(4, 1, 0);
+        Due.is("reach(0)", x.reach(0), 4);
+        Due.is("reach(1)", x.reach(1), 2);
+        Due.is("reach(2)", x.reach(2), 3);
+        Due.is("reach(3)", x.reach(3), 2);
+        Due.is("reach(4)", x.reach(4), 5);
+        Due.is("reach(5)", x.reach(5), 1);
+    }
+
+    private static void reachLongestWay() {
+        FeatureUnifier x = new FeatureUnifier();
+        for (int n = 0; n < 16; n++) {
+            x.node(0);
+        }
+        // The way runs from the highest number to the lowest one.
+        for (int n = 15; n > 0; n--) {
+            x.arc(n, n % 3, n - 1);
+        }
+        for (int n = 0; n < 16; n++) {
+            Due.is("reach(" + n + ")", x.reach(n), n + 1);
+        }
+
+        FeatureUnifier y = new FeatureUnifier();
+        for (int n = 0; n < 16; n++) {
+            y.node(0);
+        }
+        for (int n = 0; n < 15; n++) {
+            y.arc(n, n % 3, n + 1);
+        }
+        Due.is("upwards: reach(0)", y.reach(0), 16);
+        Due.is("upwards: reach(15)", y.reach(15), 1);
+    }
+
+    private static void reachCountsClasses() {
+        FeatureUnifier x = withNodes(0, 0, 0, 0);
+        x.arc(0, 0, 1);
+        x.arc(0, 1, 2);
+        x.arc(2, 0, 3);
+        Due.is("reach(0)", x.reach(0), 4);
+        x.unify(1, 2);
+        Due.is("reach(0) after unify(1, 2)", x.reach(0), 3);
+        Due.is("reach(2)", x.reach(2), 2);
+        x.unify(0, 3);
+        Due.is("reach(3) after unify(0, 3)", x.reach(3), 2);
+        Due.is("reach(2) after unify(0, 3)", x.reach(2), 2);
+    }
+
+    private static void reachBadArguments() {
+        FeatureUnifier x = withNodes(0, 0);
+        int[] wrongs = {2, -1, 16, 32, Integer.MIN_VALUE, Integer.MAX_VALUE};
+        for (int wrong : wrongs) {
+            Due.is("reach(" + wrong + ")", x.reach(wrong), -1);
+        }
+        Due.is("no nodes: reach(0)", new FeatureUnifier().reach(0), -1);
+    }
+
+    private static void subsumesItself() {
+        FeatureUnifier x = withNodes(3, 0, 1);
+        x.arc(0, 0, 1);
+        x.arc(1, 2, 0);
+        for (int n = 0; n < 3; n++) {
+            Due.is("subsumes(" + n + ", " + n + ")", x.subsumes(n, n), true);
+        }
+    }
+
+    private static void subsumesByType() {
+        FeatureUnifier x = new FeatureUnifier();
+        x.under(2, 1);
+        for (int type = 0; type < 4; type++) {
+            x.node(type);
+        }
+        Due.is("subsumes(0, 1)", x.subsumes(0, 1), true);
+        Due.is("subsumes(1, 0)", x.subsumes(1, 0), false);
+        Due.is("subsumes(1, 2)", x.subsumes(1, 2), true);
+        Due.is("subsumes(2, 1)", x.subsumes(2, 1), false);
+        Due.is("subsumes(1, 3)", x.subsumes(1, 3), false);
+        Due.is("subsumes(0, 3)", x.subsumes(0, 3), true);
+    }
+
+    private static void subsumesByValues() {
+        FeatureUnifier x = withNodes(0, 0, 0, 0, 0);
+        x.arc(0, 0, 1);
+        x.arc(2, 0, 3);
+        x.arc(2, 1, 4);
+        Due.is("less values: subsumes(0, 2)", x.subsumes(0, 2), true);
+        Due.is("more values: subsumes(2, 0)", x.subsumes(2, 0), false);
+        Due.is("no values: subsumes(1, 2)", x.subsumes(1, 2), true);
+        Due.is("no values on the other side: subsumes(0, 1)", x.subsumes(0, 1), false);
+        x.arc(1, 2, 1);
+        Due.is("a value missing below: subsumes(0, 2)", x.subsumes(0, 2), false);
+        x.arc(3, 2, 4);
+        Due.is("still missing one further: subsumes(0, 2)", x.subsumes(0, 2), false);
+    }
+
+    private static void subsumesSharing() {
+        FeatureUnifier x = withNodes(0, 0, 0, 0, 0);
+        x.arc(0, 0, 1);
+        x.arc(0, 1, 2);
+        x.arc(3, 0, 4);
+        x.arc(3, 1, 4);
+        Due.is("two values onto one: subsumes(0, 3)", x.subsumes(0, 3), true);
+        Due.is("one value onto two: subsumes(3, 0)", x.subsumes(3, 0), false);
+        x.unify(1, 2);
+        Due.is("one value onto one: subsumes(3, 0)", x.subsumes(3, 0), true);
+    }
+
+    private static void subsumesCircles() {
+        FeatureUnifier x = withNodes(0, 0, 0, 0, 0, 0, 0);
+        for (int n = 0; n < 4; n++) {
+            x.arc(n, 0, (n + 1) % 4);
+        }
+        x.arc(4, 0, 5);
+        x.arc(5, 0, 4);
+        x.arc(6, 0, 4);
+        Due.is("circle of 4 onto 2: subsumes(0, 4)", x.subsumes(0, 4), true);
+        Due.is("circle of 2 onto 4: subsumes(4, 0)", x.subsumes(4, 0), false);
+        Due.is("turned circle: subsumes(0, 3)", x.subsumes(0, 3), true);
+        Due.is("way into a circle: subsumes(6, 5)", x.subsumes(6, 5), true);
+        Due.is("circle onto the way into it: subsumes(5, 6)", x.subsumes(5, 6), false);
+    }
+
+    private static void subsumesTypeFarAway() {
+        FeatureUnifier x = new FeatureUnifier();
+        // Two ways of 8 nodes that run downwards; their ends alone differ in type.
+        for (int n = 0; n < 16; n++) {
+            x.node(n == 0 ? 1 : 0);
+        }
+        for (int n = 7; n > 0; n--) {
+            x.arc(n, n % 3, n - 1);
+            x.arc(n + 8, n % 3, n + 7);
+        }
+        Due.is("subsumes(15, 7)", x.subsumes(15, 7), true);
+        Due.is("subsumes(7, 15)", x.subsumes(7, 15), false);
+    }
+
+    private static void subsumesOnWaysThatRunBackwards() {
+        FeatureUnifier x = new FeatureUnifier();
+        // All 16 nodes lie on one way down from 15; h follows it and fails at its end alone.
+        for (int n = 0; n < 16; n++) {
+            x.node(n == 1 ? 1 : 0);
+        }
+        for (int n = 15; n > 0; n--) {
+            x.arc(n, 0, n - 1);
+        }
+        x.arc(0, 0, 0);
+        Due.is("subsumes(15, 15)", x.subsumes(15, 15), true);
+        Due.is("subsumes(15, 14)", x.subsumes(15, 14), false);
+        Due.is("subsumes(0, 15)", x.subsumes(0, 15), false);
+        Due.is("subsumes(0, 0)", x.subsumes(0, 0), true);
+
+        FeatureUnifier y = new FeatureUnifier();
+        for (int n = 0; n < 16; n++) {
+            y.node(0);
+        }
+        for (int n = 15; n > 0; n--) {
+            y.arc(n, 0, n - 1);
+        }
+        y.arc(15, 1, 15);
+        y.arc(0, 0, 0);
+        Due.is("last step fits: subsumes(14, 13)", y.subsumes(14, 13), true);
+        Due.is("missing value: subsumes(15, 14)", y.subsumes(15, 14), false);
+        Due.is("into the loop: subsumes(15, 15)", y.subsumes(15, 15), true);
+    }
+
+    private static void subsumesBadArguments() {
+        FeatureUnifier x = withNodes(0, 0);
+        int[] wrongs = {2, -1, 16, Integer.MIN_VALUE, Integer.MAX_VALUE};
+        for (int wrong : wrongs) {
+            Due.is("subsumes(" + wrong + ", 0)", x.subsumes(wrong, 0), false);
+            Due.is("subsumes(1, " + wrong + ")", x.subsumes(1, wrong), false);
+            Due.is("subsumes(" + wrong + ", " + wrong + ")", x.subsumes(wrong, wrong), false);
+        }
+        Due.is("no nodes: subsumes(0, 0)", new FeatureUnifier().subsumes(0, 0), false);
+    }
+
+    private static void questionsChangeNothing() {
+        FeatureUnifier x = withNodes(0, 1, 0, 2);
+        x.arc(0, 0, 1);
+        x.arc(2, 0, 3);
+        x.arc(3, 1, 0);
+        x.unify(0, 2);
+        x.mark();
+        String before = Look.all(x);
+        x.subsumes(0, 2);
+        x.subsumes(1, 3);
+        x.subsumes(3, 1);
+        x.reach(3);
+        Due.same("after questions", Look.all(x), before);
+    }
+}
