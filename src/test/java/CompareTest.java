@@ -12,6 +12,8 @@ public final class CompareTest {
         subsumesCircles();
         subsumesTypeFarAway();
         subsumesOnWaysThatRunBackwards();
+        subsumesFailsAtTheFurthestClass();
+        subsumesAsksTheClass();
         subsumesBadArguments();
         questionsChangeNothing();
         Due.end();
@@ -195,6 +197,34 @@ public final class CompareTest {
         Due.is("last step fits: subsumes(14, 13)", y.subsumes(14, 13), true);
         Due.is("missing value: subsumes(15, 14)", y.subsumes(15, 14), false);
         Due.is("into the loop: subsumes(15, 15)", y.subsumes(15, 15), true);
+    }
+
+    private static void subsumesFailsAtTheFurthestClass() {
+        for (int lastType = 0; lastType < 2; lastType++) {
+            FeatureUnifier x = new FeatureUnifier();
+            // A circle of all 16 nodes: h turns it by one, and only the last class, 0, can be given a wrong type.
+            for (int n = 0; n < 16; n++) {
+                x.node(n == 0 ? lastType : 0);
+            }
+            for (int n = 0; n < 16; n++) {
+                x.arc(n, 0, n == 0 ? 15 : n - 1);
+            }
+            Due.is("0 of type " + lastType + ": subsumes(15, 14)", x.subsumes(15, 14), lastType == 0);
+        }
+    }
+
+    private static void subsumesAsksTheClass() {
+        FeatureUnifier x = withNodes(0, 0, 0, 0, 0);
+        x.arc(0, 0, 1);
+        x.unify(0, 2);
+        Due.is("the values of 2 are those of 0: subsumes(2, 3)", x.subsumes(2, 3), false);
+        Due.is("the values of 2 are those of 0: subsumes(2, 2)", x.subsumes(2, 2), true);
+        x.arc(4, 0, 3);
+        Due.is("subsumes(4, 2)", x.subsumes(4, 2), true);
+        x.arc(0, 1, 2);
+        x.arc(4, 1, 4);
+        Due.is("h of 2 is given as h of its class: subsumes(2, 4)", x.subsumes(2, 4), true);
+        Due.is("subsumes(4, 2) with loops", x.subsumes(4, 2), true);
     }
 
     private static void subsumesBadArguments() {
