@@ -2,33 +2,20 @@
 public final class CompareTest {
     public static void main(String[] args) {
         reachCounts();
-        reachLongestWay();
         reachCountsClasses();
-        reachBadArguments();
         subsumesItself();
         subsumesByType();
         subsumesByValues();
         subsumesSharing();
         subsumesCircles();
-        subsumesTypeFarAway();
         subsumesOnWaysThatRunBackwards();
-        subsumesFailsAtTheFurthestClass();
         subsumesAsksTheClass();
-        subsumesBadArguments();
         questionsChangeNothing();
         Due.end();
     }
 
-    private static FeatureUnifier withNodes(int... types) {
-        FeatureUnifier x = new FeatureUnifier();
-        for (int type : types) {
-            x.node(type);
-        }
-        return x;
-    }
-
     private static void reachCounts() {
-        FeatureUnifier x = withNodes(0, 0, 0, 0, 0, 0);
+        FeatureUnifier x = Make.nodes(0, 0, 0, 0, 0, 0);
         x.arc(0, 0, 1);
         x.arc(0, 1, 2);
         x.arc(1, 2, 3);
@@ -44,32 +31,8 @@ public final class CompareTest {
         Due.is("reach(5)", x.reach(5), 1);
     }
 
-    private static void reachLongestWay() {
-        FeatureUnifier x = new FeatureUnifier();
-        for (int n = 0; n < 16; n++) {
-            x.node(0);
-        }
-        // The way runs from the highest number to the lowest one.
-        for (int n = 15; n > 0; n--) {
-            x.arc(n, n % 3, n - 1);
-        }
-        for (int n = 0; n < 16; n++) {
-            Due.is("reach(" + n + ")", x.reach(n), n + 1);
-        }
-
-        FeatureUnifier y = new FeatureUnifier();
-        for (int n = 0; n < 16; n++) {
-            y.node(0);
-        }
-        for (int n = 0; n < 15; n++) {
-            y.arc(n, n % 3, n + 1);
-        }
-        Due.is("upwards: reach(0)", y.reach(0), 16);
-        Due.is("upwards: reach(15)", y.reach(15), 1);
-    }
-
     private static void reachCountsClasses() {
-        FeatureUnifier x = withNodes(0, 0, 0, 0);
+        FeatureUnifier x = Make.nodes(0, 0, 0, 0);
         x.arc(0, 0, 1);
         x.arc(0, 1, 2);
         x.arc(2, 0, 3);
@@ -82,17 +45,8 @@ public final class CompareTest {
         Due.is("reach(2) after unify(0, 3)", x.reach(2), 2);
     }
 
-    private static void reachBadArguments() {
-        FeatureUnifier x = withNodes(0, 0);
-        int[] wrongs = {2, -1, 16, 32, Integer.MIN_VALUE, Integer.MAX_VALUE};
-        for (int wrong : wrongs) {
-            Due.is("reach(" + wrong + ")", x.reach(wrong), -1);
-        }
-        Due.is("no nodes: reach(0)", new FeatureUnifier().reach(0), -1);
-    }
-
     private static void subsumesItself() {
-        FeatureUnifier x = withNodes(3, 0, 1);
+        FeatureUnifier x = Make.nodes(3, 0, 1);
         x.arc(0, 0, 1);
         x.arc(1, 2, 0);
         for (int n = 0; n < 3; n++) {
@@ -115,7 +69,7 @@ public final class CompareTest {
     }
 
     private static void subsumesByValues() {
-        FeatureUnifier x = withNodes(0, 0, 0, 0, 0);
+        FeatureUnifier x = Make.nodes(0, 0, 0, 0, 0);
         x.arc(0, 0, 1);
         x.arc(2, 0, 3);
         x.arc(2, 1, 4);
@@ -130,7 +84,7 @@ public final class CompareTest {
     }
 
     private static void subsumesSharing() {
-        FeatureUnifier x = withNodes(0, 0, 0, 0, 0);
+        FeatureUnifier x = Make.nodes(0, 0, 0, 0, 0);
         x.arc(0, 0, 1);
         x.arc(0, 1, 2);
         x.arc(3, 0, 4);
@@ -142,7 +96,7 @@ public final class CompareTest {
     }
 
     private static void subsumesCircles() {
-        FeatureUnifier x = withNodes(0, 0, 0, 0, 0, 0, 0);
+        FeatureUnifier x = Make.nodes(0, 0, 0, 0, 0, 0, 0);
         for (int n = 0; n < 4; n++) {
             x.arc(n, 0, (n + 1) % 4);
         }
@@ -154,20 +108,6 @@ public final class CompareTest {
         Due.is("turned circle: subsumes(0, 3)", x.subsumes(0, 3), true);
         Due.is("way into a circle: subsumes(6, 5)", x.subsumes(6, 5), true);
         Due.is("circle onto the way into it: subsumes(5, 6)", x.subsumes(5, 6), false);
-    }
-
-    private static void subsumesTypeFarAway() {
-        FeatureUnifier x = new FeatureUnifier();
-        // Two ways of 8 nodes that run downwards; their ends alone differ in type.
-        for (int n = 0; n < 16; n++) {
-            x.node(n == 0 ? 1 : 0);
-        }
-        for (int n = 7; n > 0; n--) {
-            x.arc(n, n % 3, n - 1);
-            x.arc(n + 8, n % 3, n + 7);
-        }
-        Due.is("subsumes(15, 7)", x.subsumes(15, 7), true);
-        Due.is("subsumes(7, 15)", x.subsumes(7, 15), false);
     }
 
     private static void subsumesOnWaysThatRunBackwards() {
@@ -199,22 +139,8 @@ public final class CompareTest {
         Due.is("into the loop: subsumes(15, 15)", y.subsumes(15, 15), true);
     }
 
-    private static void subsumesFailsAtTheFurthestClass() {
-        for (int lastType = 0; lastType < 2; lastType++) {
-            FeatureUnifier x = new FeatureUnifier();
-            // A circle of all 16 nodes: h turns it by one, and only the last class, 0, can be given a wrong type.
-            for (int n = 0; n < 16; n++) {
-                x.node(n == 0 ? lastType : 0);
-            }
-            for (int n = 0; n < 16; n++) {
-                x.arc(n, 0, n == 0 ? 15 : n - 1);
-            }
-            Due.is("0 of type " + lastType + ": subsumes(15, 14)", x.subsumes(15, 14), lastType == 0);
-        }
-    }
-
     private static void subsumesAsksTheClass() {
-        FeatureUnifier x = withNodes(0, 0, 0, 0, 0);
+        FeatureUnifier x = Make.nodes(0, 0, 0, 0, 0);
         x.arc(0, 0, 1);
         x.unify(0, 2);
         Due.is("the values of 2 are those of 0: subsumes(2, 3)", x.subsumes(2, 3), false);
@@ -227,19 +153,8 @@ public final class CompareTest {
         Due.is("subsumes(4, 2) with loops", x.subsumes(4, 2), true);
     }
 
-    private static void subsumesBadArguments() {
-        FeatureUnifier x = withNodes(0, 0);
-        int[] wrongs = {2, -1, 16, Integer.MIN_VALUE, Integer.MAX_VALUE};
-        for (int wrong : wrongs) {
-            Due.is("subsumes(" + wrong + ", 0)", x.subsumes(wrong, 0), false);
-            Due.is("subsumes(1, " + wrong + ")", x.subsumes(1, wrong), false);
-            Due.is("subsumes(" + wrong + ", " + wrong + ")", x.subsumes(wrong, wrong), false);
-        }
-        Due.is("no nodes: subsumes(0, 0)", new FeatureUnifier().subsumes(0, 0), false);
-    }
-
     private static void questionsChangeNothing() {
-        FeatureUnifier x = withNodes(0, 1, 0, 2);
+        FeatureUnifier x = Make.nodes(0, 1, 0, 2);
         x.arc(0, 0, 1);
         x.arc(2, 0, 3);
         x.arc(3, 1, 0);

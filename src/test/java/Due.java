@@ -2,31 +2,33 @@
 final class Due {
     private static int wrong = 0;
     private static int asked = 0;
+    private static String sentence = "";
 
     private Due() {
     }
 
+    /** The sentence of the document that the answers from here on belong to; a wrong one is told with it. */
+    static void sentence(String words) {
+        sentence = "\"" + words + "\": ";
+    }
+
     static void is(String call, int got, int want) {
-        asked++;
-        if (got != want) {
-            wrong++;
-            System.out.println(call + " answered " + got + ", due is " + want);
-        }
+        compare(call + " answered " + got + ", due is " + want, got == want);
     }
 
     static void is(String call, boolean got, boolean want) {
-        asked++;
-        if (got != want) {
-            wrong++;
-            System.out.println(call + " answered " + got + ", due is " + want);
-        }
+        compare(call + " answered " + got + ", due is " + want, got == want);
     }
 
     static void same(String what, String got, String want) {
+        compare(what + ": found " + got + ", due is " + want, got.equals(want));
+    }
+
+    private static void compare(String told, boolean right) {
         asked++;
-        if (!got.equals(want)) {
+        if (!right) {
             wrong++;
-            System.out.println(what + ": found " + got + ", due is " + want);
+            System.out.println(sentence + told);
         }
     }
 

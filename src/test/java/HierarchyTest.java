@@ -1,37 +1,13 @@
 /** Promises 1 to 4: a new object, under, isUnder, meet. */
 public final class HierarchyTest {
     public static void main(String[] args) {
-        newObject();
         newObjectsShareNothing();
         underCounts();
         underIsTransitive();
-        underTwiceTheSame();
-        underBadArguments();
-        underWithNodes();
-        underTestsInOrder();
-        underRefusesCircles();
         underRefusesPairsWithoutMeet();
-        underRefusesMeetLostFarAway();
         underAcceptsWhatHasAMeet();
         meets();
-        meetBadArguments();
-        isUnderBadArguments();
         Due.end();
-    }
-
-    private static void newObject() {
-        FeatureUnifier x = new FeatureUnifier();
-        for (int a = 0; a < 8; a++) {
-            for (int b = 0; b < 8; b++) {
-                Due.is("new: isUnder(" + a + ", " + b + ")", x.isUnder(a, b), b == 0 || a == b);
-            }
-        }
-        Due.is("new: nodes()", x.nodes(), 0);
-        Due.is("new: classes()", x.classes(), 0);
-        Due.is("new: marks()", x.marks(), 0);
-        Due.is("new: back()", x.back(), -4);
-        Due.is("new: keep()", x.keep(), -4);
-        Due.is("new: classOf(0)", x.classOf(0), -1);
     }
 
     private static void newObjectsShareNothing() {
@@ -79,64 +55,6 @@ public final class HierarchyTest {
         Due.is("chain: under(7, 1)", chain.under(7, 1), 7);
     }
 
-    private static void underTwiceTheSame() {
-        FeatureUnifier x = new FeatureUnifier();
-        Due.is("under(4, 3)", x.under(4, 3), 2);
-        Due.is("under(4, 3) again", x.under(4, 3), 2);
-    }
-
-    private static void underBadArguments() {
-        FeatureUnifier x = new FeatureUnifier();
-        String before = Look.hierarchy(x);
-        for (int wrong : Look.WRONG_TYPES) {
-            Due.is("under(" + wrong + ", 1)", x.under(wrong, 1), -1);
-            Due.is("under(1, " + wrong + ")", x.under(1, wrong), -1);
-            Due.is("under(" + wrong + ", " + wrong + ")", x.under(wrong, wrong), -1);
-        }
-        Due.same("hierarchy after bad arguments", Look.hierarchy(x), before);
-    }
-
-    private static void underWithNodes() {
-        FeatureUnifier x = new FeatureUnifier();
-        x.under(2, 1);
-        String before = Look.hierarchy(x);
-        x.mark();
-        x.node(0);
-        Due.is("with a node: under(3, 1)", x.under(3, 1), -2);
-        Due.is("with a node: under(2, 1)", x.under(2, 1), -2);
-        Due.is("with a node: under(4, 4)", x.under(4, 4), -2);
-        Due.same("hierarchy after refusals", Look.hierarchy(x), before);
-        x.back();
-        Due.is("nodes gone by back: under(3, 1)", x.under(3, 1), 3);
-        x.node(0);
-        x.clear();
-        Due.is("nodes gone by clear: under(4, 1)", x.under(4, 1), 4);
-    }
-
-    private static void underTestsInOrder() {
-        FeatureUnifier x = new FeatureUnifier();
-        x.under(2, 1);
-        x.node(0);
-        Due.is("bad argument before nodes: under(8, 1)", x.under(8, 1), -1);
-        Due.is("bad argument before nodes: under(1, -1)", x.under(1, -1), -1);
-        Due.is("nodes before clash: under(1, 2)", x.under(1, 2), -2);
-        Due.is("nodes before clash: under(0, 1)", x.under(0, 1), -2);
-    }
-
-    private static void underRefusesCircles() {
-        FeatureUnifier x = new FeatureUnifier();
-        x.under(2, 1);
-        x.under(3, 2);
-        x.under(4, 3);
-        String before = Look.hierarchy(x);
-        Due.is("under(1, 2)", x.under(1, 2), -3);
-        Due.is("under(1, 3)", x.under(1, 3), -3);
-        Due.is("under(1, 4)", x.under(1, 4), -3);
-        Due.is("under(0, 4)", x.under(0, 4), -3);
-        Due.is("under(0, 7)", x.under(0, 7), -3);
-        Due.same("hierarchy after circles", Look.hierarchy(x), before);
-    }
-
     private static void underRefusesPairsWithoutMeet() {
         FeatureUnifier x = new FeatureUnifier();
         x.under(3, 1);
@@ -150,22 +68,6 @@ public final class HierarchyTest {
         Due.is("under(4, 3)", x.under(4, 3), 2);
         Due.is("under(4, 2)", x.under(4, 2), 3);
         Due.is("meet(1, 2)", x.meet(1, 2), 3);
-    }
-
-    private static void underRefusesMeetLostFarAway() {
-        FeatureUnifier x = new FeatureUnifier();
-        x.under(3, 1);
-        x.under(3, 2);
-        x.under(5, 4);
-        x.under(5, 2);
-        // Neither 4 nor 1 loses its own meet with the other: it is 1 and 2 that get the two lower types 3 and 5.
-        Due.is("under(4, 1)", x.under(4, 1), -3);
-        Due.is("isUnder(4, 1)", x.isUnder(4, 1), false);
-        Due.is("isUnder(5, 1)", x.isUnder(5, 1), false);
-        Due.is("under(5, 3)", x.under(5, 3), 2);
-        Due.is("under(4, 1) once 5 is under 3", x.under(4, 1), 4);
-        Due.is("meet(4, 3)", x.meet(4, 3), 5);
-        Due.is("meet(4, 2)", x.meet(4, 2), 5);
     }
 
     private static void underAcceptsWhatHasAMeet() {
@@ -205,23 +107,5 @@ public final class HierarchyTest {
         Due.is("meet(7, 3)", x.meet(7, 3), -4);
         x.node(0);
         Due.is("meet(6, 7) with a node", x.meet(6, 7), 1);
-    }
-
-    private static void meetBadArguments() {
-        FeatureUnifier x = new FeatureUnifier();
-        for (int wrong : Look.WRONG_TYPES) {
-            Due.is("meet(" + wrong + ", 0)", x.meet(wrong, 0), -1);
-            Due.is("meet(0, " + wrong + ")", x.meet(0, wrong), -1);
-            Due.is("meet(" + wrong + ", " + wrong + ")", x.meet(wrong, wrong), -1);
-        }
-    }
-
-    private static void isUnderBadArguments() {
-        FeatureUnifier x = new FeatureUnifier();
-        for (int wrong : Look.WRONG_TYPES) {
-            Due.is("isUnder(" + wrong + ", 0)", x.isUnder(wrong, 0), false);
-            Due.is("isUnder(0, " + wrong + ")", x.isUnder(0, wrong), false);
-            Due.is("isUnder(" + wrong + ", " + wrong + ")", x.isUnder(wrong, wrong), false);
-        }
     }
 }

@@ -1,15 +1,12 @@
-/** Everything that can be asked of an object about its nodes, classes, types, values and marks, as a text to compare. */
+/** What can be asked of an object, as a text to compare. */
 final class Look {
-    static final int[] WRONG_NODES = {-1, 16, Integer.MIN_VALUE, Integer.MAX_VALUE};
-    static final int[] WRONG_TYPES = {-1, 8, 32, Integer.MIN_VALUE, Integer.MAX_VALUE};
-    static final int[] WRONG_FEATURES = {-1, 3, Integer.MIN_VALUE, Integer.MAX_VALUE};
-
     private Look() {
     }
 
     static String structures(FeatureUnifier x) {
-        StringBuilder text = new StringBuilder("nodes " + x.nodes() + " classes " + x.classes());
-        for (int n = 0; n < x.nodes(); n++) {
+        int count = x.nodes();
+        StringBuilder text = new StringBuilder("nodes " + count + " classes " + x.classes());
+        for (int n = 0; n < count; n++) {
             text.append(" | ").append(x.classOf(n)).append(':').append(x.typeOf(n));
             for (int f = 0; f < 3; f++) {
                 text.append(' ').append(x.value(n, f));
@@ -32,5 +29,15 @@ final class Look {
 
     static String all(FeatureUnifier x) {
         return structures(x) + " marks " + x.marks();
+    }
+
+    /** All of it, and what each mark has kept; the marks are used up by this. */
+    static String downToTheLastMark(FeatureUnifier x) {
+        StringBuilder text = new StringBuilder(hierarchy(x)).append(all(x));
+        int marks = x.marks();
+        for (int k = 0; k < marks; k++) {
+            text.append(" back ").append(x.back()).append(' ').append(structures(x));
+        }
+        return text.toString();
     }
 }

@@ -2,7 +2,6 @@
 public final class UnifyTest {
     public static void main(String[] args) {
         plain();
-        withItself();
         takesOverValues();
         carriesOnThroughValues();
         carriesOnThroughCircles();
@@ -12,23 +11,13 @@ public final class UnifyTest {
         threeTypesMeet();
         failsAtOnce();
         failsDeepDown();
-        failsByTheThirdType();
-        badArguments();
         unifiableChangesNothing();
         manyMerges();
         Due.end();
     }
 
-    private static FeatureUnifier withNodes(int count) {
-        FeatureUnifier x = new FeatureUnifier();
-        for (int n = 0; n < count; n++) {
-            x.node(0);
-        }
-        return x;
-    }
-
     private static void plain() {
-        FeatureUnifier x = withNodes(4);
+        FeatureUnifier x = Make.plain(4);
         Due.is("unify(2, 1)", x.unify(2, 1), 3);
         Due.same("after unify(2, 1)", Look.structures(x),
                 "nodes 4 classes 3 | 0:0 -4 -4 -4 | 1:0 -4 -4 -4 | 1:0 -4 -4 -4 | 3:0 -4 -4 -4");
@@ -37,18 +26,8 @@ public final class UnifyTest {
         Due.is("unify(3, 1)", x.unify(3, 1), 1);
     }
 
-    private static void withItself() {
-        FeatureUnifier x = withNodes(2);
-        x.arc(0, 0, 1);
-        x.arc(0, 1, 0);
-        String before = Look.all(x);
-        Due.is("unify(0, 0)", x.unify(0, 0), 2);
-        Due.is("unifiable(1, 1)", x.unifiable(1, 1), true);
-        Due.same("after unify(0, 0)", Look.all(x), before);
-    }
-
     private static void takesOverValues() {
-        FeatureUnifier x = withNodes(4);
+        FeatureUnifier x = Make.plain(4);
         x.arc(1, 2, 3);
         x.arc(0, 0, 2);
         Due.is("unify(0, 1)", x.unify(0, 1), 3);
@@ -61,7 +40,7 @@ public final class UnifyTest {
     }
 
     private static void carriesOnThroughValues() {
-        FeatureUnifier x = withNodes(8);
+        FeatureUnifier x = Make.plain(8);
         // Two chains over the features 0, 1, 2, side by side.
         for (int f = 0; f < 3; f++) {
             x.arc(f, f, f + 1);
@@ -75,7 +54,7 @@ public final class UnifyTest {
     }
 
     private static void carriesOnThroughCircles() {
-        FeatureUnifier x = withNodes(10);
+        FeatureUnifier x = Make.plain(10);
         // A circle of 4 and one of 6 leave a circle of 2, their greatest common divisor.
         for (int n = 0; n < 4; n++) {
             x.arc(n, 1, (n + 1) % 4);
@@ -92,7 +71,7 @@ public final class UnifyTest {
     }
 
     private static void carriesOnThroughLateValues() {
-        FeatureUnifier x = withNodes(7);
+        FeatureUnifier x = Make.plain(7);
         // The value of 0 for feature 2 comes from 4, and only then meets that of 5.
         x.arc(0, 0, 1);
         x.arc(4, 0, 5);
@@ -106,7 +85,7 @@ public final class UnifyTest {
     }
 
     private static void loopMeetsPath() {
-        FeatureUnifier x = withNodes(5);
+        FeatureUnifier x = Make.plain(5);
         x.arc(4, 0, 4);
         for (int n = 0; n < 3; n++) {
             x.arc(n, 0, n + 1);
@@ -114,7 +93,7 @@ public final class UnifyTest {
         Due.is("unify(0, 4)", x.unify(0, 4), 1);
         Due.is("value(3, 0)", x.value(3, 0), 0);
 
-        FeatureUnifier y = withNodes(3);
+        FeatureUnifier y = Make.plain(3);
         y.arc(0, 0, 1);
         y.arc(1, 0, 2);
         Due.is("a node and its value: unify(0, 1)", y.unify(0, 1), 1);
@@ -191,46 +170,6 @@ public final class UnifyTest {
         Due.is("value(4, 1)", x.value(4, 1), 2);
     }
 
-    private static void failsByTheThirdType() {
-        FeatureUnifier x = new FeatureUnifier();
-        // Each two of 1, 2, 3 have a meet, the three have none.
-        x.under(4, 1);
-        x.under(4, 2);
-        x.under(5, 2);
-        x.under(5, 3);
-        x.under(6, 1);
-        x.under(6, 3);
-        x.node(1);
-        x.node(2);
-        x.node(3);
-        for (int n = 0; n < 3; n++) {
-            Due.is("unifiable(" + n + ", " + (n + 1) % 3 + ")", x.unifiable(n, (n + 1) % 3), true);
-        }
-        Due.is("unify(0, 1)", x.unify(0, 1), 2);
-        Due.is("unifiable(1, 2)", x.unifiable(1, 2), false);
-        Due.is("unify(1, 2)", x.unify(1, 2), -3);
-        Due.is("typeOf(1)", x.typeOf(1), 4);
-        Due.is("typeOf(2)", x.typeOf(2), 3);
-    }
-
-    private static void badArguments() {
-        FeatureUnifier x = new FeatureUnifier();
-        Due.is("no nodes: unify(0, 0)", x.unify(0, 0), -1);
-        Due.is("no nodes: unifiable(0, 0)", x.unifiable(0, 0), false);
-        x.node(1);
-        x.node(2);
-        int[] wrongs = {2, -1, 16, Integer.MIN_VALUE, Integer.MAX_VALUE};
-        for (int wrong : wrongs) {
-            Due.is("unify(" + wrong + ", 0)", x.unify(wrong, 0), -1);
-            Due.is("unify(1, " + wrong + ")", x.unify(1, wrong), -1);
-            Due.is("unify(" + wrong + ", " + wrong + ")", x.unify(wrong, wrong), -1);
-            Due.is("unifiable(" + wrong + ", 0)", x.unifiable(wrong, 0), false);
-            Due.is("unifiable(1, " + wrong + ")", x.unifiable(1, wrong), false);
-            Due.is("unifiable(" + wrong + ", " + wrong + ")", x.unifiable(wrong, wrong), false);
-        }
-        Due.is("classes()", x.classes(), 2);
-    }
-
     private static void unifiableChangesNothing() {
         FeatureUnifier x = new FeatureUnifier();
         x.under(2, 1);
@@ -253,7 +192,7 @@ public final class UnifyTest {
 
     private static void manyMerges() {
         // As many merges as there can be, with as many values as there can be.
-        FeatureUnifier x = withNodes(16);
+        FeatureUnifier x = Make.plain(16);
         for (int n = 0; n < 16; n++) {
             x.arc(n, 0, (n + 1) % 16);
             x.arc(n, 1, (n + 5) % 16);
