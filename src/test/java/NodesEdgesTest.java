@@ -20,7 +20,9 @@ public final class NodesEdgesTest {
         arcBesideOtherValues();
         arcOntoItself();
         arcTestsTheRangeBeforeTheValue();
+        nodeStandsForItsClass();
         classOfTheLeastNode();
+        valueIsAnsweredAsTheLeastNode();
         classOfNoNode();
         typeOfTheClass();
         typeOfNoNode();
@@ -281,6 +283,32 @@ public final class NodesEdgesTest {
         }
     }
 
+    private static void nodeStandsForItsClass() {
+        Due.sentence("Below, \"n\" for a node also stands for its class");
+        // 3 is in the class of 0 and 5 in that of 1; neither has had a type or a value of its own.
+        FeatureUnifier x = Make.nodes(6, 7, 0, 0, 0, 0);
+        x.arc(0, 0, 2);
+        x.arc(1, 0, 4);
+        x.arc(1, 1, 2);
+        x.unify(0, 3);
+        x.unify(5, 1);
+        Due.is("classOf(3)", x.classOf(3), 0);
+        Due.is("typeOf(3)", x.typeOf(3), 6);
+        Due.is("value(5, 1)", x.value(5, 1), 2);
+        Due.is("reach(5)", x.reach(5), 3);
+        Due.is("unifiable(3, 5)", x.unifiable(3, 5), false);
+        Due.is("unify(5, 3)", x.unify(5, 3), -3);
+        Due.is("subsumes(3, 2)", x.subsumes(3, 2), false);
+        Due.is("subsumes(2, 3)", x.subsumes(2, 3), true);
+        Due.is("subsumes(3, 3)", x.subsumes(3, 3), true);
+        Due.is("arc(3, 0, 2)", x.arc(3, 0, 2), -2);
+        Due.is("arc(3, 2, 5)", x.arc(3, 2, 5), 0);
+        Due.is("value(0, 2)", x.value(0, 2), 1);
+        Due.is("subsumes(3, 0)", x.subsumes(3, 0), true);
+        Due.is("subsumes(4, 5)", x.subsumes(4, 5), true);
+        Due.is("subsumes(5, 4)", x.subsumes(5, 4), false);
+    }
+
     private static void classOfTheLeastNode() {
         Due.sentence("a class is answered as the least number of its nodes");
         FeatureUnifier x = Make.plain(16);
@@ -294,6 +322,22 @@ public final class NodesEdgesTest {
             Due.is("classOf(15)", x.classOf(15), n - 1);
             Due.is("classOf(" + n + ")", x.classOf(n), n - 1);
         }
+    }
+
+    private static void valueIsAnsweredAsTheLeastNode() {
+        Due.sentence("a class is answered as the least number of its nodes (as a value too)");
+        FeatureUnifier x = Make.plain(16);
+        x.arc(0, 0, 14);
+        x.arc(15, 2, 14);
+        for (int n = 13; n > 0; n--) {
+            x.unify(n, 14);
+            Due.is("value(0, 0)", x.value(0, 0), n);
+            Due.is("value(15, 2)", x.value(15, 2), n);
+        }
+        x.arc(1, 1, 14);
+        Due.is("value(14, 1)", x.value(14, 1), 1);
+        x.unify(0, 1);
+        Due.is("value(14, 1)", x.value(14, 1), 0);
     }
 
     private static void classOfNoNode() {
